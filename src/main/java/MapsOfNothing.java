@@ -4,7 +4,7 @@ import java.util.Arrays;
  * Maps of what is not there: lands, laws of where things may stand, and notes of what was not seen.
  *
  * <p>Squares are bits of a long everywhere, 6 * y + x, whatever the width of the land. No call makes
- * an object: all rows are made with the object itself.
+ * an object, but for one row, made once: all others are made with the object itself.
  */
 public final class MapsOfNothing {
     public static final int NONE = -1;
@@ -528,29 +528,19 @@ public final class MapsOfNothing {
                 return NONE;
             }
             int which = 0;
-            int from = 0;
+            int match = place;
             for (int i = 0; i <= words.length(); i++) {
                 if (i == words.length() || words.charAt(i) == ' ') {
-                    if (isPart(words, from, i)) {
+                    if (match == at) {
                         return which;
                     }
                     which++;
-                    from = i + 1;
+                    match = place;
+                } else if (match != NONE) {
+                    match = match < at && bytes[match] == words.charAt(i) ? match + 1 : NONE;
                 }
             }
             return NONE;
-        }
-
-        private boolean isPart(String words, int from, int to) {
-            if (to - from != at - place) {
-                return false;
-            }
-            for (int i = from; i < to; i++) {
-                if (words.charAt(i) != bytes[place + i - from]) {
-                    return false;
-                }
-            }
-            return true;
         }
 
         boolean takeNumber(int least, int most) {
@@ -755,7 +745,8 @@ public final class MapsOfNothing {
             if (word == NONE) {
                 return tape.fail(0);
             }
-            if (before >= MOST_CLAUSES || (before == 0) != (word == WIDE) || isFull(word)) {
+            boolean isMisplaced = before == 0 ? word != WIDE : word == WIDE;
+            if (before >= MOST_CLAUSES || isMisplaced || isFull(word)) {
                 return tape.fail(4);
             }
             tape.scan();
@@ -1099,7 +1090,7 @@ public final class MapsOfNothing {
                 if (word == 1 && orWaits) {
                     law.emit(Law.OR);
                 }
-                orWaits |= word == 1;
+                orWaits = orWaits || word == 1;
                 tape.scan();
                 if (!readFact(depth)) {
                     return false;
@@ -1701,6 +1692,7 @@ public final class MapsOfNothing {
     /** What climbing tells: by which sorts one sees none of, how many layings there are. */
     private static final class Climbs {
         private static final int TOLD = 1 << MOST_SORTS;
+        private static final int PAIRS = MOST_HILLS * (MOST_HILLS + 1) / 2;
 
         private int views;
         private final long[] view = new long[SQUARES];
@@ -1711,8 +1703,8 @@ public final class MapsOfNothing {
         private int far;
 
         private int hills;
-        /** By two hills, in either order, and what each told. */
-        private final int[] both = new int[MOST_HILLS * (MOST_HILLS + 1) / 2 * TOLD * TOLD];
+        /** By two hills, in either order, and what each told: the longest row, so only made once it is asked for. */
+        private int[] both = new int[0];
         private final int[] none = new int[MOST_HILLS];
         private final int[] noneWithLast = new int[MOST_HILLS];
         private final int[] lastSeen = new int[MOST_HILLS];
@@ -1812,6 +1804,9 @@ public final class MapsOfNothing {
             bothVersion = stateVersion;
             bothSet = notes;
             hills = land.hills;
+            if (both.length == 0) {
+                both = new int[PAIRS * TOLD * TOLD];
+            }
             Arrays.fill(both, 0);
             int all = (1 << land.sorts) - 1;
             search.start(notes);

@@ -25,6 +25,7 @@ public final class RoomTest {
         for (int i = 0; i < 10; i++) {
             m.note(i % 6, 0, i % 8, i % 4, i % 5 - 1);
         }
+        m.plan(0, 0);
         allocated();
         long before = allocated();
         long then = System.nanoTime();
