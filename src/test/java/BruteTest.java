@@ -133,7 +133,7 @@ public final class BruteTest {
 
     private static Object test(StringBuilder text, int depth) {
         Object tree = part(text, depth);
-        for (int i = upTo(1); i > 0; i--) {
+        for (int i = upTo(2); i > 0; i--) {
             text.append(" or ");
             tree = new Object[] {"or", tree, part(text, depth)};
         }

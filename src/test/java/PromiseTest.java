@@ -236,6 +236,9 @@ public final class PromiseTest {
         holds(land, "not 1=2 and 1=2", 0, 0, false);
         holds(land, "not [1=2 and 1=2]", 0, 0, true);
         holds(land, "not not 1=1", 0, 0, true);
+        holds(land, "1=2 or 1=2 or 1=1", 0, 0, true);
+        holds(land, "1=1 or 1=2 or 1=2 and 1=1 or 1=2", 0, 0, true);
+        holds(land, "[1=2 or 1=2 or 1=1] and [1=2 or 1=2]", 0, 0, false);
         MapsOfNothing m = Check.on(land, "bar 0 x=0;bar 1 x=0;bar 2 x=0;bar 3 x=0");
         due("only sorts that are told", m.square(0, 0, 5), 3);
         m.stands(NONE);
@@ -330,7 +333,16 @@ public final class PromiseTest {
         due("bar", Check.on("wide 3 3;sort 1;sort 1", "bar 1 x=1").layings(0), 48);
         due("two bars", Check.on("wide 3 3;sort 1", "bar 0 x=1;bar 0 y=1").layings(0), 4);
         due("sorts not told", Check.on("wide 3 3;sort 1", "bar 1 x=1;apart 0 1 5;apart 3 3 5").layings(0), 9);
+        due("twelve bars", Check.on("wide 6 6;sort 1", "bar 0 x+6*y=0" + bars(11)).layings(0), 24);
         due("all barred", Check.on("wide 3 3;sort 1", "bar 0 1=1").layings(0), 0);
+    }
+
+    private static String bars(int n) {
+        StringBuilder text = new StringBuilder();
+        for (int i = 1; i <= n; i++) {
+            text.append(";bar 0 x+6*y=").append(i);
+        }
+        return text.toString();
     }
 
     private static void may() {
