@@ -128,7 +128,9 @@ public final class HistoryTest {
             Check.due(of + "fresh", a.fresh(s, far, 0), b.fresh(s, far, 0));
             Check.due(of + "fresh", a.fresh(s, far, 1), b.fresh(s, far, 1));
         }
-        Check.due(when + " square", a.square(1, 1, 5), b.square(1, 1, 5));
+        for (int i = 0; i < 36 * 6; i++) {
+            Check.due(when + " square " + i, a.square(i / 36, i / 6 % 6, i % 6), b.square(i / 36, i / 6 % 6, i % 6));
+        }
         Check.due(when + " sees", a.sees(1), b.sees(1));
         Check.due(when + " walk", a.walk(0, 3), b.walk(0, 3));
         Check.due(when + " hidden", a.hidden(), b.hidden());
