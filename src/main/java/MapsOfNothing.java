@@ -191,7 +191,7 @@ public final class MapsOfNothing {
     }
 
     public int laying(int notes, int place, int k) {
-        if (!known(notes) || !within(k, MOST_THINGS)) {
+        if (!known(notes) || place < 0 || !within(k, MOST_THINGS)) {
             return NONE;
         }
         prepare();
@@ -1509,7 +1509,7 @@ public final class MapsOfNothing {
         }
 
         int squareOf(int set, int place, int thing) {
-            if (place < 0 || thing >= things) {
+            if (thing >= things) {
                 return WITHOUT;
             }
             int before = place;

@@ -282,11 +282,13 @@ public final class BruteTest {
 
     private static void places(int set, List<int[]> fitting) {
         int things = plain.thingSorts().length;
-        for (int i = 0; i < 6; i++) {
-            int place = i == 0 ? 0 : i == 1 ? fitting.size() - 1 : i == 2 ? fitting.size() : lot.nextInt(fitting.size() + 1);
+        int many = fitting.size();
+        int[] places = {0, many - 1, many, -1 - lot.nextInt(50), lot.nextInt(many + 1), lot.nextInt(many + 1)};
+        for (int place : places) {
             for (int k = 0; k < 4; k++) {
                 boolean is = place >= 0 && place < fitting.size() && k < things;
-                due("laying " + set + " " + place + " " + k, m.laying(set, place, k), is ? fitting.get(place)[k] : -2);
+                int due = is ? fitting.get(place)[k] : place < 0 ? -1 : -2;
+                due("laying " + set + " " + place + " " + k, m.laying(set, place, k), due);
             }
         }
     }

@@ -395,11 +395,27 @@ public final class PromiseTest {
         }
         due("the last one", m.laying(0, 11, 0), 7);
         due("no such place", m.laying(0, 12, 0), -2);
-        due("below", m.laying(0, -1, 0), -2);
+        due("far beyond", m.laying(0, Integer.MAX_VALUE, 0), -2);
         due("no such thing", m.laying(0, 0, 3), -2);
         due("k", m.laying(0, 0, 4), NONE);
         due("k", m.laying(0, 0, -1), NONE);
         due("notes", m.laying(1, 0, 0), NONE);
+        placeBelow("with layings", m, 0);
+        placeBelow("without a land", new MapsOfNothing(), 0);
+        placeBelow("without things", Check.on("wide 2 2"), 0);
+        placeBelow("without room", Check.on("wide 2 2;wood 0 0 1 1;sort 1"), 0);
+        MapsOfNothing quarrels = Check.on("wide 2 2;hill 0 0 1;sort 1");
+        quarrels.note(0, 0, 0, 0, 0);
+        placeBelow("with one that fits no laying", quarrels, 1);
+    }
+
+    /** A place is from 0 on: NONE goes ahead of there being no laying, or no such thing. */
+    private static void placeBelow(String when, MapsOfNothing m, int set) {
+        for (int place : new int[] {-1, -2, -12, -1000000, Integer.MIN_VALUE}) {
+            for (int k = 0; k < 4; k++) {
+                due("place " + place + " " + k + " " + when, m.laying(set, place, k), NONE);
+            }
+        }
     }
 
     private static void rows() {
