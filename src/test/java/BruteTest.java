@@ -10,13 +10,36 @@ public final class BruteTest {
     private static Plain plain;
     private static MapsOfNothing m;
     private static String told;
+    /** How often there were so many columns, rows, things, and things of one sort: all must have come up. */
+    private static final int[][] SEEN = new int[4][7];
 
     public static void main(String[] args) {
         for (int i = 0; i < 260; i++) {
-            lot = new Random(i);
+            lot = Check.lot(i);
             run(i);
         }
+        coverage();
         Check.finish("BruteTest");
+    }
+
+    private static void coverage() {
+        for (int n = 2; n <= 6; n++) {
+            Check.that("lands of " + n + " columns", SEEN[0][n] > 9);
+            Check.that("lands of " + n + " rows", SEEN[1][n] > 9);
+        }
+        for (int n = 1; n <= 4; n++) {
+            Check.that("lands of " + n + " things", SEEN[2][n] > 9);
+            Check.that("lands of " + n + " things of a sort", SEEN[3][n] > 9);
+        }
+    }
+
+    private static void tell(Plain land) {
+        SEEN[0][land.w]++;
+        SEEN[1][land.h]++;
+        SEEN[2][land.thingSorts().length]++;
+        for (int n : land.sorts) {
+            SEEN[3][n]++;
+        }
     }
 
     private static void due(String what, long got, long want) {
@@ -28,6 +51,7 @@ public final class BruteTest {
         m = new MapsOfNothing();
         told = "run " + number;
         String text = land();
+        tell(plain);
         due("land '" + text + "'", Check.land(m, text), plain.hills.size());
         if (number % 3 != 0) {
             String law = law();
@@ -88,7 +112,7 @@ public final class BruteTest {
                 text.append(";road " + x + " " + y + " " + x2 + " " + y2);
                 plain.roads.add(new int[] {x, y, x2, y2});
             } else if (kind > 5 && plain.sorts.size() < 4) {
-                int n = upTo(Math.min(left, 2));
+                int n = upTo(left);
                 left -= n;
                 text.append(";sort " + n);
                 plain.sorts.add(n);

@@ -1,3 +1,5 @@
+import java.util.Random;
+
 /** What the tests share: texts fed as numbers, and answers held against those that are due. */
 final class Check {
     private static int wrong;
@@ -25,6 +27,15 @@ final class Check {
         if (wrong != 0) {
             System.exit(1);
         }
+    }
+
+    /** A lot of its own for each run: seeds that are near one another begin nearly alike, so they are spread. */
+    static Random lot(int run) {
+        Random lot = new Random(run * 0x9E3779B97F4A7C15L + 12345);
+        for (int i = 0; i < 8; i++) {
+            lot.nextInt();
+        }
+        return lot;
     }
 
     /** Puts a text on the tape, in place of what was there. */

@@ -45,6 +45,8 @@ public final class EdgeTest {
         quarrel();
         least();
         careless();
+        squaresNobodySpeaksOf();
+        allSquaresToldApart();
         trust();
         worst();
         next();
@@ -310,11 +312,17 @@ public final class EdgeTest {
         for (int i = 0; i < 20; i++) {
             due("refused", Check.law(m, wrong), Check.fault(wrong.length(), 0));
         }
+        due("one with not", Check.law(m, "bar 0 not not x+1+1=2 and not [y=1 or not y>1];bar"), Check.fault(50, 0));
         due("the third", Check.law(m, "bar 0 x+1+1=2 and not [y=1 or y>1]"), 2);
         m.stands(2);
         due("it stands", m.layings(0), 25);
         due("on its square", m.square(0, 0, 5), 1);
         due("but not below", m.square(0, 1, 5), 0);
+        due("a not behind one sign", Check.law(m, "bar 0 not x=1;bar"), Check.fault(17, 0));
+        due("the fourth, as long as that sign", Check.law(m, "bar 0 x=1"), 3);
+        m.stands(3);
+        due("without the not", m.square(1, 0, 5), 1);
+        due("without the not", m.square(2, 0, 5), 0);
     }
 
     private static void stands() {
@@ -816,6 +824,14 @@ public final class EdgeTest {
         refused(m, NONE, new int[] {-1, 5, 6, MIN, MAX}, "n", a -> m.rows(0, 0, 0, a));
         m.note(0, 0, 0, 0, 0);
         due("none fits", m.rows(1, 0, 0, 0), 0);
+        MapsOfNothing wide = Check.on("wide 6 6;sort 1");
+        MapsOfNothing two = Check.on("wide 6 2;sort 2");
+        for (int y = 0; y < 6; y++) {
+            due("one of six rows " + y, wide.rows(0, 0, y, 1), 6);
+            due("not in one of six rows " + y, wide.rows(0, 0, y, 0), 30);
+        }
+        due("both of twelve", two.rows(0, 0, 0, 2), 15);
+        due("one of twelve", two.rows(0, 0, 0, 1), 36);
         MapsOfNothing wood = Check.on("wide 3 3;wood 0 0 2 0;sort 2");
         due("a row of wood", wood.rows(0, 0, 0, 0), 15);
         due("a row of wood", wood.rows(0, 0, 0, 1), 0);
@@ -954,6 +970,61 @@ public final class EdgeTest {
         two.stands(0);
         due("not even without all", two.careless(15), -2);
         due("not even of none", two.careless(0), -2);
+    }
+
+    /** The notes leave one square alone, the first or the last, of which none of them speaks. */
+    private static void squaresNobodySpeaksOf() {
+        promise = 20;
+        String[] lands = {"wide 2 2;road 1 0 1 1;road 0 1 1 1;sort 1", "wide 6 6;wood 0 0 5 4;road 0 5 3 5;road 3 5 4 5;sort 1"};
+        for (String land : lands) {
+            MapsOfNothing m = Check.on(land);
+            m.note(0, 1, 0, 0, 0);
+            m.note(1, 1, 1, 0, 0);
+            due("one laying", m.layings(3), 1);
+            due("it fits", m.careless(3), 0);
+            due("all are trusted", m.trust(3), 0);
+            due("both say something", m.least(3), 3);
+        }
+    }
+
+    /** Ten notes, and no two squares of which the same notes speak: for all sets, held against their squares as bits. */
+    private static void allSquaresToldApart() {
+        String land = "wide 6 6;road 0 0 5 0;road 0 1 5 1;road 0 2 5 2;road 0 3 5 3;road 0 4 5 4;road 2 0 2 5"
+            + ";hill 0 2 3;hill 0 3 4;hill 5 2 3;hill 5 3 4;sort 1";
+        for (int sure = -1; sure <= 0; sure++) {
+            MapsOfNothing m = Check.on(land);
+            long[] squares = new long[10];
+            for (int i = 0; i < 10; i++) {
+                due("note", m.note(i % 6, i < 6 ? 1 : 0, i < 6 ? i : i - 6, 0, sure), i);
+                long there = i < 5 ? 63L << 6 * i : i == 5 ? 0x104104104L : m.sees(i - 6);
+                squares[i] = sure == 0 ? ~there : there;
+            }
+            int[] many = new int[1024];
+            for (int set = 0; set < 1024; set++) {
+                long left = (1L << 36) - 1;
+                for (int i = 0; i < 10; i++) {
+                    left &= (set >> i & 1) != 0 ? squares[i] : -1L;
+                }
+                many[set] = Long.bitCount(left);
+            }
+            for (int set = 0; set < 1024; set++) {
+                int least = set;
+                int out = set;
+                for (int part = set; part >= 0; part--) {
+                    boolean isPart = (part & ~set) == 0;
+                    least = isPart && many[part] == many[set] && isAsFew(part, least) ? part : least;
+                    out = isPart && many[set ^ part] > 0 && isAsFew(part, out) ? part : out;
+                }
+                promise = 19;
+                due("least of " + set, m.least(set), least);
+                promise = 20;
+                due("careless of " + set, m.careless(set), out);
+            }
+        }
+    }
+
+    private static boolean isAsFew(int set, int best) {
+        return Integer.bitCount(set) <= Integer.bitCount(best);
     }
 
     private static void trust() {

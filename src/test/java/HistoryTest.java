@@ -35,7 +35,7 @@ public final class HistoryTest {
 
     public static void main(String[] args) {
         for (int run = 0; run < 60; run++) {
-            lot = new Random(run);
+            lot = Check.lot(run);
             history(run);
         }
         Check.finish("HistoryTest");
