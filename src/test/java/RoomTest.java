@@ -50,9 +50,9 @@ public final class RoomTest {
     }
 
     private static void oddArguments() {
-        for (int state = 0; state < 3; state++) {
-            MapsOfNothing m = new MapsOfNothing();
-            if (state > 0) {
+        for (int state = 0; state < 4; state++) {
+            MapsOfNothing m = state == 3 ? full() : new MapsOfNothing();
+            if (state == 1 || state == 2) {
                 Check.land(m, state == 1 ? "wide 2 2" : "wide 3 2;hill 0 0 1;hill 2 1 1;road 0 0 1 0;sort 1;sort 0;sort 1");
                 m.note(0, 0, 0, 0, 0);
                 m.note(1, 1, 0, 2, -1);
@@ -68,6 +68,23 @@ public final class RoomTest {
             }
         }
         Check.that("no call throws", true);
+    }
+
+    /** All that there can be most of: hills, roads, sorts, notes, laws and images. */
+    private static MapsOfNothing full() {
+        MapsOfNothing m = Check.on("wide 6 6;hill 0 0 2;hill 5 5 9;hill 0 5 3;hill 5 0 1;hill 2 2 1;hill 3 3 9;hill 1 4 2"
+            + ";hill 4 1 2;road 0 3 5 3;road 0 0 0 5;road 5 0 5 5;road 0 5 5 5;road 1 1 1 1;road 2 0 2 5"
+            + ";sort 1;sort 1;sort 0;sort 0", "apart 0 1 5;bar 3 x=y and edge=0");
+        for (int i = 1; i < 4; i++) {
+            Check.due("a law", Check.law(m, "bar " + i + " woods=0"), i);
+        }
+        for (int i = 0; i < 10; i++) {
+            Check.due("a note", m.note(i % 6, i % 2, i % 2 == 0 ? 7 - i / 2 : 5 - i / 2, i % 4, i % 4), i);
+        }
+        for (int i = 0; i < 4; i++) {
+            Check.due("an image", m.image(i), 10);
+        }
+        return m;
     }
 
     private static void one(MapsOfNothing m, int a) {

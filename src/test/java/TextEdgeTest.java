@@ -28,6 +28,7 @@ public final class TextEdgeTest {
         depth();
         sixty();
         clausesOfLaws();
+        cutAtTheLastByte();
         Check.finish("TextEdgeTest");
     }
 
@@ -490,5 +491,22 @@ public final class TextEdgeTest {
         badLaw(twelve + ";;", twelve.length() + 1, 0);
         badLaw(twelve + ";3", twelve.length() + 1, 0);
         badLaw("apart 0 0 1;wide 3 3", 12, 0);
+    }
+
+    /** Texts cut anywhere, with their end on byte 400: nothing behind the tape is looked at, whatever could go on there. */
+    private static void cutAtTheLastByte() {
+        String law = "apart 0 1 2;bar 3 not [x<=y or woods>=seen]and hill<road or edge>1*12345/9;bar 0 x=x";
+        for (int n = 0; n <= FULL.length(); n++) {
+            String text = stretch("", FULL.substring(0, n), 400);
+            int fault = PlainText.landFault(text);
+            int got = Check.land(new MapsOfNothing(), text);
+            Check.due("land cut at the last byte '" + FULL.substring(0, n) + "'", Math.min(got, 0), fault == 0 ? 0 : -2 - fault);
+        }
+        for (int n = 0; n <= law.length(); n++) {
+            String text = stretch("", law.substring(0, n), 400);
+            int fault = PlainText.lawFault(text);
+            Check.due("law cut at the last byte '" + law.substring(0, n) + "'", Check.law(new MapsOfNothing(), text),
+                fault == 0 ? 0 : -2 - fault);
+        }
     }
 }
